@@ -175,7 +175,7 @@ public final class ModelTest {
                 due("cell(" + i + ", end) of " + n, x.cell(i, path.size()), PathFamilies.NONE);
             }
         }
-        makeRoom(2);
+        makeRoom(3);
         int before = x.rank();
         due("load of one too many", x.load(families.size()), PathFamilies.NONE);
         due("rank() after it", x.rank(), before);
