@@ -446,6 +446,10 @@ public final class PromisesTest {
         x.due("musts()", 24);
         x.due("weight(0, 0)", 0);
         x.due("musts()", 24);
+        // Two families of 7 cells, one through cell 5, the other through cell 1.
+        Subject y = Subject.after("ends(1, 2)", "block(10, 1)");
+        y.due("families()", 2);
+        y.due("musts()", 6);
     }
 
     private static void mustsNoFamily() {
