@@ -62,12 +62,8 @@ public final class PromisesTest {
         Sentences.holds("14: NONE if none is loaded", PromisesTest::rankNone);
     }
 
-    private static String call(String name, int a, int b) {
-        return name + "(" + a + ", " + b + ")";
-    }
-
-    private static String call(String name, int a) {
-        return name + "(" + a + ")";
+    private static String call(String name, int... arguments) {
+        return Calls.of(name, arguments);
     }
 
     private static void newWithoutBlocked() {

@@ -128,29 +128,16 @@ public final class TermsTest {
         x.due("paths(3, 3)", 6);
     }
 
-    private static List<Integer> rows(int set) {
-        List<Integer> rows = new ArrayList<>();
-        for (int row = 0; row < 5; row++) {
-            if ((set >> row & 1) == 1) rows.add(row);
-        }
-        return rows;
-    }
-
-    private static boolean areEnds(int starts, int goals) {
-        int count = Integer.bitCount(starts);
-        return count <= 4 && count == Integer.bitCount(goals);
-    }
-
     private static void endsByRow() {
         // On a free board the number of paths tells how many rows the goal lies below the start.
         int[] byDowns = {1, 6, 21, 56, 126};
         for (int starts = 1; starts <= 31; starts++) {
             for (int goals = 1; goals <= 31; goals++) {
-                if (!areEnds(starts, goals)) continue;
+                if (!Model.areEnds(starts, goals)) continue;
                 Subject x = Subject.after("ends(" + starts + ", " + goals + ")");
-                for (int i = 0; i < rows(starts).size(); i++) {
-                    for (int j = 0; j < rows(goals).size(); j++) {
-                        int downs = rows(goals).get(j) - rows(starts).get(i);
+                for (int i = 0; i < Model.rows(starts).size(); i++) {
+                    for (int j = 0; j < Model.rows(goals).size(); j++) {
+                        int downs = Model.rows(goals).get(j) - Model.rows(starts).get(i);
                         x.due("paths(" + i + ", " + j + ")", downs < 0 ? 0 : byDowns[downs]);
                     }
                 }

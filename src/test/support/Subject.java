@@ -8,7 +8,8 @@ public final class Subject {
     /** Ints that are no cells, the nearest and the farthest. */
     public static final int[] NOT_CELLS = {-1, 30, 31, 32, 35, 62, -2, -30, 1 << 30,
         Integer.MAX_VALUE, Integer.MIN_VALUE};
-    private static final int MOST_CALLS = 512;
+    /** The document promises nothing after so many calls on one object. */
+    public static final int MOST_CALLS = 512;
 
     private final PathFamilies object = new PathFamilies();
     private final List<String> run = new ArrayList<>();
@@ -20,21 +21,18 @@ public final class Subject {
         return x;
     }
 
-    public void due(String call, int want) {
+    /** Whether the answer was the one that is due. */
+    public boolean due(String call, int want) {
         int got = ask(call);
         if (got != want) Sentences.wrong(run + " answered " + got + ", due is " + want);
+        return got == want;
     }
 
     public int ask(String call) {
         run.add(call);
         if (run.size() > MOST_CALLS) Sentences.wrong("the test itself makes too many calls");
-        int open = call.indexOf('(');
-        String inside = call.substring(open + 1, call.length() - 1);
-        String[] words = inside.isEmpty() ? new String[0] : inside.split(", ");
-        int[] args = new int[words.length];
-        for (int n = 0; n < args.length; n++) args[n] = Integer.parseInt(words[n]);
         try {
-            return answer(call.substring(0, open), args);
+            return answer(Calls.name(call), Calls.arguments(call));
         } catch (RuntimeException | Error e) {
             throw new IllegalStateException(run + " threw " + e);
         }
